@@ -36,7 +36,7 @@ public final class Buildmill {
     private static final int FIGURES = 12;
     private static final int AGAIN = 9, FETCHED = 10, LOOKED_AT_MORE = 11;
     private static final int OVERFULL = -2;
-    private static final int NEVER = Integer.MAX_VALUE;
+    private static final int NEVER = 2147483647;
     private static final int TRIES = 3;
 
     private final Disk files = new Disk();
@@ -265,7 +265,7 @@ public final class Buildmill {
             needPlace(setting, SETTINGS);
         }
         needRange(value, 0, setting == NONE ? 0 : VALUES - 1);
-        targets.at(target).transition = setting == NONE ? NONE : setting * VALUES + value;
+        targets.at(target).setTransition(setting, value);
     }
 
     public void work(int target, int kind, int duration, boolean isBoth) throws IndexOutOfBoundsException, IllegalArgumentException {
@@ -447,7 +447,7 @@ public final class Buildmill {
     }
 
     public void seed(int seed) throws IllegalArgumentException {
-        needRange(seed, 0, Integer.MAX_VALUE);
+        needRange(seed, 0, 2147483647);
         draws = seed;
     }
 
@@ -525,10 +525,6 @@ public final class Buildmill {
             }
             return paths;
         }
-
-        boolean isElsewhere(int path, int directory, long inputPaths) {
-            return ownerOf(path) != directory && (inputPaths >> path & 1) == 0;
-        }
     }
 
     /**
@@ -589,17 +585,20 @@ public final class Buildmill {
         }
 
         int valueOf(int file, int name) {
-            int thing = thingOf(file, name);
+            evaluate(file);
+            int thing = result(file, name);
             return thing >= FIRST_LIST ? IS_LIST : thing;
         }
 
         int numberOf(int file, int name) {
-            int thing = thingOf(file, name);
+            evaluate(file);
+            int thing = result(file, name);
             return thing >= FIRST_LIST ? NONE : thing;
         }
 
         int numberInList(int file, int name, int place) {
-            int list = thingOf(file, name) - FIRST_LIST;
+            evaluate(file);
+            int list = result(file, name) - FIRST_LIST;
             return list >= 0 && place < read(listSizes, list) ? read(numbers, list * LIST_SIZE + place) : NONE;
         }
 
@@ -612,8 +611,7 @@ public final class Buildmill {
             return failing * 1000 + read(places, failing) * 10 + (cause == depth - 1 ? reason : LOADED);
         }
 
-        private int thingOf(int file, int name) {
-            evaluate(file);
+        private int result(int file, int name) {
             return reason == NONE ? thing(file, name) : NONE;
         }
 
@@ -662,9 +660,10 @@ public final class Buildmill {
         }
 
         private int whyFailing(int file, int at) {
+            int kind = read(kinds, at);
             int n = thing(file, read(firsts, at));
-            int m = thing(file, read(seconds, at));
-            switch (read(kinds, at)) {
+            int m = kind == SET ? NONE : thing(file, read(seconds, at));
+            switch (kind) {
                 case LOAD:
                     if (read(marks, read(origins, at)) == ACTIVE) {
                         return CYCLE;
@@ -813,7 +812,8 @@ public final class Buildmill {
         int ruleAt = NONE;
         int ruleNumber = NONE;
         int type = NONE;
-        int transition = NONE;
+        private int settingsKept = CONFIGURATIONS - 1;
+        private int settingsMoved;
         int kind;
         int duration = 1;
         boolean isBoth;
@@ -854,6 +854,11 @@ public final class Buildmill {
             return conditionCount;
         }
 
+        void setTransition(int setting, int value) {
+            settingsKept = setting == NONE ? CONFIGURATIONS - 1 : Tools.changed(CONFIGURATIONS - 1, setting, 0);
+            settingsMoved = setting == NONE ? 0 : Tools.changed(0, setting, value);
+        }
+
         void setWork(int workerKind, int time, boolean inBothWays) {
             kind = workerKind;
             duration = time;
@@ -874,8 +879,7 @@ public final class Buildmill {
 
         /** The configuration of the targets among its items. */
         int below(int configuration) {
-            return transition == NONE ? configuration
-                : Tools.changed(configuration, transition / VALUES, transition % VALUES);
+            return configuration & settingsKept | settingsMoved;
         }
 
         /** Keeps that a shard was tried with a content; tells whether it had not been. */
@@ -1040,7 +1044,7 @@ public final class Buildmill {
                 Target target = targets.at(node >> 8);
                 if (place < target.itemCount) {
                     store(places, depth - 1, place + 1);
-                    enter(itemNode(target, node, place));
+                    enter(itemNode(target, node, target.itemAt(place)));
                 } else {
                     store(faults, node, faultOf(target, node));
                     store(order, orderCount, node);
@@ -1060,8 +1064,8 @@ public final class Buildmill {
         }
 
         /** The node of an item; NONE if the item is no target. */
-        private int itemNode(Target target, int node, int place) {
-            int inner = target.itemAt(place) - Target.FIRST_TARGET;
+        private int itemNode(Target target, int node, int item) {
+            int inner = item - Target.FIRST_TARGET;
             return inner >= 0 && inner < TARGETS ? inner * CONFIGURATIONS + target.below(node & 255) : NONE;
         }
 
@@ -1078,11 +1082,11 @@ public final class Buildmill {
             }
             int inputs = 0;
             for (int place = 0; place < target.itemCount; place++) {
-                int fault = itemFault(target, node, place);
+                int item = target.itemAt(place);
+                int fault = itemFault(target, node, item);
                 if (fault != 0) {
                     return fault;
                 }
-                int item = target.itemAt(place);
                 inputs += item < Target.FIRST_GLOB ? 1 : Long.bitCount(globOf(target, item));
             }
             return inputs > INPUTS ? TOO_MANY : 0;
@@ -1092,15 +1096,14 @@ public final class Buildmill {
             return target.type == NONE ? 0 : tools.resolve(target.type, node & 255);
         }
 
-        private int itemFault(Target target, int node, int place) {
-            int item = target.itemAt(place);
+        private int itemFault(Target target, int node, int item) {
             if (item < Target.FIRST_TARGET) {
                 if (files.ownerOf(item) != target.directory) {
                     return CROSSES;
                 }
                 return files.contentAt(item) == NONE ? MISSING : 0;
             }
-            int inner = itemNode(target, node, place);
+            int inner = itemNode(target, node, item);
             return inner != NONE && read(faults, inner) != 0 ? DEPENDS + inner * FAULTS : 0;
         }
 
@@ -1212,7 +1215,7 @@ public final class Buildmill {
                 int input = action.inputAt(place);
                 store(action.now.contents, place, input < FIRST_ACTION ? files.contentAt(input) : input - FIRST_ACTION);
             }
-            action.now.perform(files, action.directory, action.inputPaths);
+            action.now.perform(files, action.directory);
             return action.now.content;
         }
 
@@ -1223,7 +1226,7 @@ public final class Buildmill {
             action.start(target, target.numberIn(node & 255), versionOf(target, node));
             for (int place = 0; place < target.itemCount; place++) {
                 int item = target.itemAt(place);
-                int inner = itemNode(target, node, place);
+                int inner = itemNode(target, node, item);
                 if (item >= Target.FIRST_GLOB) {
                     action.addPaths(globOf(target, item));
                 } else if (inner == NONE) {
@@ -1288,7 +1291,7 @@ public final class Buildmill {
         }
 
         /** Finds, and makes the content: NONE if it fails. */
-        void perform(Disk files, int directory, long inputPaths) {
+        void perform(Disk files, int directory) {
             foundCount = 0;
             looksFurther = false;
             int sum = number + version;
@@ -1307,14 +1310,14 @@ public final class Buildmill {
             if (operation == CHECK) {
                 content = sum % 7 == 0 ? NONE : (number + version) % 1000;
             } else if (operation == INCLUDE) {
-                content = (sum + lookAround(files, directory, inputPaths)) % 1000;
+                content = (sum + lookAround(files, directory)) % 1000;
             } else {
                 content = (sum + (operation == MOST ? greatest : operation == TALLY ? count : 0)) % 1000;
             }
         }
 
-        /** The sum of the contents of all that is found. */
-        private int lookAround(Disk files, int directory, long inputPaths) {
+        // Paths that are inputs belong to the directory, or the target would be in error.
+        private int lookAround(Disk files, int directory) {
             int sum = 0;
             long looked = 0;
             for (int place = 0; place < count; place++) {
@@ -1325,7 +1328,7 @@ public final class Buildmill {
                         break;
                     }
                     looked |= 1L << path;
-                    boolean isElsewhere = files.isElsewhere(path, directory, inputPaths);
+                    boolean isElsewhere = files.ownerOf(path) != directory;
                     looksFurther |= isElsewhere;
                     pointer = isElsewhere && files.isSandboxed ? NONE : files.contentAt(path);
                     sum += Math.max(pointer, 0);
@@ -1336,8 +1339,10 @@ public final class Buildmill {
         }
 
         private void note(int found) {
-            store(founds, foundCount, found);
-            foundCount++;
+            if (foundCount >= 0 && foundCount < founds.length) {
+                founds[foundCount] = found;
+                foundCount++;
+            }
         }
 
         /**
@@ -1357,17 +1362,15 @@ public final class Buildmill {
         }
 
         void copy(Entry other) {
-            start(other.operation, other.number, other.version);
+            operation = other.operation;
+            number = other.number;
+            version = other.version;
             count = other.count;
             foundCount = other.foundCount;
             looksFurther = other.looksFurther;
             content = other.content;
-            for (int place = 0; place < count; place++) {
-                store(contents, place, read(other.contents, place));
-            }
-            for (int place = 0; place < foundCount; place++) {
-                store(founds, place, read(other.founds, place));
-            }
+            System.arraycopy(other.contents, 0, contents, 0, Math.min(contents.length, other.contents.length));
+            System.arraycopy(other.founds, 0, founds, 0, Math.min(founds.length, other.founds.length));
         }
     }
 
@@ -1375,7 +1378,6 @@ public final class Buildmill {
     private static final class Action {
         int directory;
         int inputCount;
-        long inputPaths;
         private final int[] inputs = new int[INPUTS];
         final Entry now = new Entry();
         final Entry kept = new Entry();
@@ -1397,7 +1399,6 @@ public final class Buildmill {
         void start(Target target, int number, int version) {
             directory = target.directory;
             inputCount = 0;
-            inputPaths = 0;
             now.start(target.operation, number, version);
         }
 
@@ -1412,7 +1413,6 @@ public final class Buildmill {
                     addInput(path);
                 }
             }
-            inputPaths |= paths;
         }
 
         int inputAt(int place) {
@@ -1421,7 +1421,8 @@ public final class Buildmill {
 
         /** The action that is an input; NONE if that is a path, or there are not so many. */
         int actionInput(int place) {
-            return Math.max(inputAt(place) - FIRST_ACTION, NONE);
+            boolean isThere = place >= 0 && place < inputCount && place < inputs.length;
+            return isThere && inputs[place] >= FIRST_ACTION ? inputs[place] - FIRST_ACTION : NONE;
         }
 
         boolean isSameAs(Action other) {
@@ -1591,7 +1592,7 @@ public final class Buildmill {
         }
 
         boolean isWarm(int worker, int version) {
-            return read(warmFor, worker) == version;
+            return worker >= 0 && worker < warmFor.length && warmFor[worker] == version;
         }
 
         private boolean isBusy(int worker) {
@@ -1753,7 +1754,9 @@ public final class Buildmill {
         }
 
         private void count(int figure, int more) {
-            store(figures, figure, read(figures, figure) + more);
+            if (figure >= 0 && figure < figures.length) {
+                figures[figure] += more;
+            }
         }
 
         private void cancelRest() {
@@ -1814,7 +1817,7 @@ public final class Buildmill {
                 int content = inner == NONE ? files.contentAt(action.inputAt(place)) : plan.actionAt(inner).now.content;
                 store(action.now.contents, place, content);
             }
-            action.now.perform(files, action.directory, action.inputPaths);
+            action.now.perform(files, action.directory);
         }
 
         private void begin(Action action, int number) {

@@ -17,6 +17,7 @@ public final class ModelTest {
     private final boolean isSmall;
     private final boolean isWild;
     private final boolean isSound;
+    private final boolean isBusy;
     private final int mood;
     private final int favourite;
     private final int many;
@@ -25,6 +26,7 @@ public final class ModelTest {
         random = new Random(seed);
         mood = random.nextInt(5);
         isSound = mood > 1;
+        isBusy = (mood == 2 || mood == 4) && random.nextBoolean();
         isNested = mood == 4 || !isSound && random.nextBoolean();
         isPointing = mood == 4 || random.nextInt(3) == 0;
         isSmall = random.nextInt(3) == 0;
@@ -120,8 +122,10 @@ public final class ModelTest {
         }
         if (mood == 2) call("toolchain", 0, 0, 1, 5);
         if (mood == 2) call("toolchain", 0, -1, 0, below(2));
-        if (coin()) call("workers", 0, 1 + below(4));
+        if (coin() && !isBusy) call("workers", 0, 1 + below(4));
+        if (isBusy) call("far", true, 1);
         for (int i = 0; i < many; i++) addSoundTarget(i);
+        if (isBusy) call("build", (1 << targetCount / 2 + 1) - 1, true, 0);
     }
 
     private int soundOperation() {
@@ -137,7 +141,9 @@ public final class ModelTest {
         if (mood == 4 && coin()) call("glob", target, 1 << below(8) | 1 << below(8), coin());
         int depends = target == 0 ? 0 : mood == 3 ? 1 : below(4);
         for (int i = 0; i < depends; i++) call("depend", target, coin() ? below(target) : Math.max(0, target - 1 - below(3)));
-        if (below(4) != 0) call("work", target, below(4) == 0 ? below(3) : 0, 1 + below(20), below(3) != 0);
+        if (target == 0 && isBusy) call("work", target, 0, 20, false);
+        else if (isBusy) call("work", target, 0, 1 + below(3), true);
+        else if (below(4) != 0) call("work", target, below(4) == 0 ? below(3) : 0, 1 + below(20), below(3) != 0);
         if (mood == 3 || below(5) == 0) call("uses", target, mood == 3 ? below(3) : 0);
         if (below(6) == 0) call("transit", target, below(4), below(4));
         for (int i = 0; i < 4 && mood == 3 && coin(); i++) call("choose", target, i, below(4), target * 40 + i);

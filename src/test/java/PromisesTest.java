@@ -37,6 +37,7 @@ public final class PromisesTest {
         sandbox();
         far();
         lose();
+        lostDeeply();
         forget();
         entries();
         build();
@@ -44,6 +45,7 @@ public final class PromisesTest {
         buildInTime();
         buildWithLimit();
         buildInBothWays();
+        manyWays();
         told();
         failedFirst();
         critical();
@@ -376,11 +378,28 @@ public final class PromisesTest {
         C.due("the old one stays", b.listAt(0, 2, 1), 14);
         b.state(0, Buildmill.ADD, 7, 7, 0);
         C.due("failing", b.listAt(0, 2, 0), NONE);
+        manyLists();
         C.noPlace("file -1", () -> b.listAt(-1, 0, 0));
         C.noPlace("file 6", () -> b.listAt(6, 0, 0));
         C.noPlace("name -1", () -> b.listAt(0, -1, 0));
         C.noPlace("name 8", () -> b.listAt(0, 8, 0));
         C.noPlace("place -1", () -> b.listAt(0, 0, -1));
+    }
+
+    /** 60 lists, of which the first and the last get numbers. */
+    private static void manyLists() {
+        Buildmill b = new Buildmill();
+        for (int file = 5; file >= 0; file--) {
+            b.state(file, Buildmill.SET, 7, file + 1, 0);
+            for (int i = 0; i < 9; i++) b.state(file, Buildmill.LIST, i % 5, 0, 0);
+            b.state(file, Buildmill.PUSH, 0, 7, 0);
+            if (file < 5) b.state(file, Buildmill.LOAD, 6, file == 4 ? 0 : 6, file + 1);
+        }
+        C.due("none fails", b.ruleFailure(0, 0), NONE);
+        C.due("the first list, through all files", b.listAt(0, 6, 0), 6);
+        C.due("a list of the last file", b.listAt(0, 0, 0), 1);
+        C.due("without more numbers", b.listAt(0, 0, 1), NONE);
+        C.due("a list between", b.listAt(3, 0, 0), 4);
     }
 
     private static void ruleFailure() {
@@ -1052,6 +1071,52 @@ public final class PromisesTest {
         C.due("brings no bytes", fromFar.told(9), 1);
     }
 
+    /** Target 0 keeps the worker busy, so that the others are run far. */
+    private static Buildmill withBusyWorker() {
+        Buildmill b = withFiles();
+        one(b, Buildmill.JOIN, 100, 0);
+        b.work(0, 0, 20, false);
+        b.far(true, 1);
+        return b;
+    }
+
+    private static void lostDeeply() {
+        C.promise(30);
+        Buildmill two = withBusyWorker();
+        for (int first = 1; first < 5; first += 2) {
+            one(two, Buildmill.JOIN, 100 * first, first);
+            of(two, Buildmill.JOIN, 200 * first, first);
+            two.work(first, 0, 2, true);
+            two.work(first + 1, 0, 3, true);
+        }
+        two.build(31, false, 0);
+        C.due("four were run far", two.told(1 + Buildmill.RAN_FAR), 4);
+        of(two, Buildmill.JOIN, 7, 2, 4, 1);
+        two.work(5, 0, 5, false);
+        two.far(false, 1);
+        C.due("both ways down", timeOf(two, 32), 3 + 2 + 3 + 2 + 3);
+        C.due("four are run again", two.told(9), 4);
+
+        Buildmill chain = withBusyWorker();
+        one(chain, Buildmill.JOIN, 7, 1);
+        chain.work(1, 0, 1, true);
+        for (int target = 2; target < 15; target++) {
+            of(chain, Buildmill.JOIN, 7, target - 1);
+            chain.work(target, 0, 1, true);
+        }
+        chain.build(1 | 1 << 9, false, 0);
+        chain.write(0, 500);
+        chain.build(1 | 1 << 14, false, 0);
+        of(chain, Buildmill.STRIP, 0, 14);
+        chain.far(false, 1);
+        C.due("all the way down", timeOf(chain, 1 << 15), 15);
+        C.due("14 are run again", chain.told(9), 14);
+        chain.write(0, 501);
+        chain.source(15, 0);
+        chain.work(15, 0, 3, false);
+        C.due("and not once more", timeOf(chain, 1 << 15), 2);
+    }
+
     private static void forget() {
         C.promise(31);
         Buildmill b = ranFar();
@@ -1597,6 +1662,12 @@ public final class PromisesTest {
         b.toolchain(0, NONE, 0, 3);
         b.uses(0, 0);
         C.due("another version", b.actionOf(0), NONE);
+        b.uses(0, NONE);
+        b.numberFrom(0, 2, 2);
+        b.state(2, Buildmill.SET, 2, 0, 0);
+        C.due("the number comes from a file", b.actionOf(0), 0);
+        b.state(2, Buildmill.SET, 2, 50, 0);
+        C.due("and is another one then", b.actionOf(0), 2);
         C.noPlace("2", () -> b.actionOf(2));
         C.noPlace("-1", () -> b.actionOf(-1));
     }
@@ -1710,6 +1781,11 @@ public final class PromisesTest {
         C.due("configured by the settings", b.output(0), NONE);
         b.setting(0, 0);
         C.due("as before", b.output(0), 105);
+        b.numberFrom(0, 2, 2);
+        b.state(2, Buildmill.SET, 2, 0, 0);
+        C.due("another number", b.output(0), NONE);
+        b.state(2, Buildmill.SET, 2, 100, 0);
+        C.due("the number as before", b.output(0), 105);
         b.erase(0);
         C.due("in error", b.output(0), NONE);
         C.noPlace("2", () -> b.output(2));
@@ -1736,6 +1812,28 @@ public final class PromisesTest {
         C.due("in error", b.outputFromNothing(2), NONE);
         C.noPlace("3", () -> b.outputFromNothing(3));
         C.noPlace("-1", () -> b.outputFromNothing(-1));
+    }
+
+    /** Ways beyond number: each target has the one before it six times. */
+    private static void manyWays() {
+        C.promise(33);
+        Buildmill b = withFiles();
+        one(b, Buildmill.JOIN, 0, 0);
+        int content = 1;
+        for (int target = 1; target < 16; target++) {
+            of(b, Buildmill.JOIN, target, target - 1, target - 1, target - 1, target - 1, target - 1, target - 1);
+            content = (target + 21 * content) % 1000;
+        }
+        C.due("from nothing", b.outputFromNothing(15), content);
+        C.due("built", b.build(1 << 15, false, 0), 1);
+        C.due("each once", b.actions(), 16);
+        C.due("output", b.output(15), content);
+        C.due("the shortest way", b.someWay(15, 0, 15), 0);
+        for (int target = 1; target < 16; target++) b.transit(target, target % 4, target / 4 % 4);
+        C.due("configured in many ways", b.outputFromNothing(15), content);
+        b.erase(0);
+        C.due("all causes", b.targetError(15, 15), Buildmill.MISSING);
+        C.due("and no more", b.targetError(15, 16), NONE);
     }
 
     // ---- tests
