@@ -619,6 +619,7 @@ public final class Buildmill {
             return read(things, file * NAMES + name);
         }
 
+        // What was found stays true until a statement comes or goes.
         private void evaluate(int file) {
             if (file == evaluated) {
                 return;
@@ -1352,10 +1353,12 @@ public final class Buildmill {
         boolean isAlike(Entry other) {
             boolean isAlike = operation == other.operation && number == other.number && version == other.version
                 && count == other.count && foundCount == other.foundCount;
-            for (int place = 0; isAlike && place < count && place < contents.length; place++) {
+            int inputEnd = Math.min(count, Math.min(contents.length, other.contents.length));
+            for (int place = 0; isAlike && place < inputEnd; place++) {
                 isAlike = contents[place] == other.contents[place];
             }
-            for (int place = 0; isAlike && place < foundCount && place < founds.length; place++) {
+            int foundEnd = Math.min(foundCount, Math.min(founds.length, other.founds.length));
+            for (int place = 0; isAlike && place < foundEnd; place++) {
                 isAlike = founds[place] == other.founds[place];
             }
             return isAlike;
