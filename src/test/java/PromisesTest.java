@@ -677,6 +677,11 @@ public final class PromisesTest {
         C.noRange("names -1", () -> b.glob(0, -1, false));
         C.noRange("names 256", () -> b.glob(0, 256, false));
         for (int i = 3; i <= 6; i++) C.due("up to 6", b.glob(0, 0, false), i);
+        b.target(0, Buildmill.TALLY, 0);
+        b.glob(2, 0, false);
+        b.glob(2, 0, true);
+        b.glob(2, 255, true);
+        C.due("no names find nothing", b.outputFromNothing(2), 8);
         C.noState("a seventh", () -> b.glob(0, 0, false));
         C.noRange("the range ahead of the seventh", () -> b.glob(0, 256, false));
     }
@@ -1752,6 +1757,15 @@ public final class PromisesTest {
         b.work(1, 0, 2, false);
         b.build(2, false, 1);
         C.due("not kept", b.found(1, 0), NONE);
+        Buildmill ring = new Buildmill();
+        for (int path = 0; path < 48; path++) ring.write(path, 528 + (path + 1) % 48);
+        one(ring, Buildmill.INCLUDE, 0, 0);
+        ring.build(1, false, 0);
+        for (int place = 0; place < 48; place++) {
+            int path = (place + 1) % 48;
+            C.due("all paths, place " + place, ring.found(0, place), 1000 * path + 528 + (path + 1) % 48);
+        }
+        C.due("none twice", ring.found(0, 48), NONE);
         C.noPlace("action 2", () -> b.found(2, 0));
         C.noPlace("action -1", () -> b.found(-1, 0));
         C.noPlace("place -1", () -> b.found(0, -1));
@@ -1945,6 +1959,11 @@ public final class PromisesTest {
         C.due("four", b.tries(), 4);
         C.noState("no shards", () -> b.test(1));
         C.due("a call that throws changes nothing", b.tries(), 4);
+        b.write(0, 999);
+        b.test(0);
+        C.due("the greatest content", b.tries(), 4);
+        b.test(0);
+        C.due("is kept, too", b.tries(), 0);
     }
 
     private static void seed() {
