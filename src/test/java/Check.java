@@ -2,17 +2,24 @@
 final class Check {
     private int wrong;
     private int checks;
-    private int promise;
+    private int sentences;
+    private String about = "";
 
     void promise(int number) {
-        promise = number;
+        about = "promise " + number;
+    }
+
+    /** What follows tests this sentence of the document. */
+    void sentence(String words) {
+        about = '"' + words + '"';
+        sentences++;
     }
 
     void due(String what, long got, long want) {
         checks++;
         if (got != want) {
             wrong++;
-            System.out.println("promise " + promise + ": " + what + " answered " + got + ", due is " + want);
+            System.out.println(about + ": " + what + " answered " + got + ", due is " + want);
         }
     }
 
@@ -21,7 +28,7 @@ final class Check {
     }
 
     /** The exception must be of just this class: what the machine throws by itself is of another one. */
-    private void thrown(String what, Class<?> want, Runnable call) {
+    void thrown(String what, Class<?> want, Runnable call) {
         checks++;
         Class<?> got = null;
         try {
@@ -31,7 +38,7 @@ final class Check {
         }
         if (got != want) {
             wrong++;
-            System.out.println("promise " + promise + ": " + what + " threw " + got + ", due is " + want);
+            System.out.println(about + ": " + what + " threw " + got + ", due is " + want);
         }
     }
 
@@ -48,6 +55,7 @@ final class Check {
     }
 
     void end() {
+        if (sentences > 0) System.out.println(sentences + " sentences of the document are tested");
         System.out.println(checks - wrong + " of " + checks + " checks are as due");
         if (wrong > 0) System.exit(1);
     }

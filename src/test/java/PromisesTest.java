@@ -66,27 +66,6 @@ public final class PromisesTest {
         C.end();
     }
 
-    /** An object with the files 0 to 7 in the directory 0, the path p having the content 10 * p + 1. */
-    private static Buildmill withFiles() {
-        Buildmill b = new Buildmill();
-        for (int path = 0; path < 8; path++) b.write(path, 10 * path + 1);
-        return b;
-    }
-
-    /** Adds a target in the directory 0 with one path. */
-    private static int one(Buildmill b, int operation, int number, int path) {
-        int target = b.target(0, operation, number);
-        b.source(target, path);
-        return target;
-    }
-
-    /** Adds a target in the directory 0 with other targets. */
-    private static int of(Buildmill b, int operation, int number, int... others) {
-        int target = b.target(0, operation, number);
-        for (int other : others) b.depend(target, other);
-        return target;
-    }
-
     private static void constants() {
         C.promise(1);
         C.due("NONE", NONE, -1);
@@ -133,8 +112,8 @@ public final class PromisesTest {
         for (int kind = 0; kind < 3; kind++) C.due("workers", b.workers(kind, 1), 1);
         C.due("sandbox is on", b.sandbox(true), true);
 
-        Buildmill late = withFiles();
-        int target = one(late, Buildmill.JOIN, 0, 0);
+        Buildmill late = Mills.withFiles();
+        int target = Mills.one(late, Buildmill.JOIN, 0, 0);
         late.build(1, false, 0);
         late.write(0, 500);
         late.build(1, false, 0);
@@ -494,8 +473,8 @@ public final class PromisesTest {
 
     private static void toolchain() {
         C.promise(13);
-        Buildmill b = withFiles();
-        int target = one(b, Buildmill.TALLY, 0, 0);
+        Buildmill b = Mills.withFiles();
+        int target = Mills.one(b, Buildmill.TALLY, 0, 0);
         b.uses(target, 2);
         C.due("the first one", b.toolchain(1, NONE, 0, 10), 1);
         C.due("no such type", b.targetError(target, 0), Buildmill.NO_TOOL);
@@ -523,8 +502,8 @@ public final class PromisesTest {
 
     private static void untool() {
         C.promise(14);
-        Buildmill b = withFiles();
-        int target = one(b, Buildmill.TALLY, 0, 0);
+        Buildmill b = Mills.withFiles();
+        int target = Mills.one(b, Buildmill.TALLY, 0, 0);
         b.uses(target, 1);
         b.toolchain(1, 0, 0, 10);
         b.toolchain(0, 1, 1, 20);
@@ -566,9 +545,9 @@ public final class PromisesTest {
         C.noState("a 17th", () -> b.target(0, 0, 0));
         C.noRange("the range ahead of the 17th", () -> b.target(0, 0, 1000));
 
-        Buildmill kinds = withFiles();
-        one(kinds, Buildmill.JOIN, 0, 0);
-        one(kinds, Buildmill.JOIN, 0, 1);
+        Buildmill kinds = Mills.withFiles();
+        Mills.one(kinds, Buildmill.JOIN, 0, 0);
+        Mills.one(kinds, Buildmill.JOIN, 0, 1);
         kinds.work(1, 1, 1, false);
         kinds.build(3, false, 0);
         C.due("of the kind 0", kinds.told(0), 1);
@@ -576,8 +555,8 @@ public final class PromisesTest {
 
     private static void numberFrom() {
         C.promise(16);
-        Buildmill b = withFiles();
-        int target = one(b, Buildmill.TALLY, 5, 0);
+        Buildmill b = Mills.withFiles();
+        int target = Mills.one(b, Buildmill.TALLY, 5, 0);
         b.state(5, Buildmill.SET, 7, 100, 0);
         b.state(5, Buildmill.LIST, 6, 0, 0);
         b.numberFrom(target, 5, 7);
@@ -631,7 +610,7 @@ public final class PromisesTest {
 
     private static void source() {
         C.promise(18);
-        Buildmill b = withFiles();
+        Buildmill b = Mills.withFiles();
         b.target(0, Buildmill.JOIN, 0);
         C.due("the first one", b.source(0, 1), 1);
         C.due("the same again", b.source(0, 1), 2);
@@ -657,7 +636,7 @@ public final class PromisesTest {
 
     private static void glob() {
         C.promise(19);
-        Buildmill b = withFiles();
+        Buildmill b = Mills.withFiles();
         b.target(0, Buildmill.JOIN, 0);
         C.due("the first one", b.glob(0, 1 | 4, false), 1);
         C.due("by rising numbers", b.outputFromNothing(0), 1 + 2 * 21);
@@ -688,9 +667,9 @@ public final class PromisesTest {
 
     private static void depend() {
         C.promise(20);
-        Buildmill b = withFiles();
-        one(b, Buildmill.JOIN, 0, 1);
-        one(b, Buildmill.JOIN, 0, 2);
+        Buildmill b = Mills.withFiles();
+        Mills.one(b, Buildmill.JOIN, 0, 1);
+        Mills.one(b, Buildmill.JOIN, 0, 2);
         b.target(0, Buildmill.JOIN, 0);
         C.due("the first one", b.depend(2, 1), 1);
         C.due("the second one", b.depend(2, 0), 2);
@@ -711,8 +690,8 @@ public final class PromisesTest {
 
     private static void drop() {
         C.promise(21);
-        Buildmill b = withFiles();
-        one(b, Buildmill.JOIN, 0, 1);
+        Buildmill b = Mills.withFiles();
+        Mills.one(b, Buildmill.JOIN, 0, 1);
         b.source(0, 2);
         b.source(0, 3);
         C.due("the last one", b.drop(0), 2);
@@ -730,8 +709,8 @@ public final class PromisesTest {
 
     private static void uses() {
         C.promise(22);
-        Buildmill b = withFiles();
-        one(b, Buildmill.TALLY, 1, 0);
+        Buildmill b = Mills.withFiles();
+        Mills.one(b, Buildmill.TALLY, 1, 0);
         b.toolchain(0, NONE, 0, 50);
         b.toolchain(2, NONE, 0, 70);
         C.due("none at first", b.uses(0, 2), NONE);
@@ -751,12 +730,12 @@ public final class PromisesTest {
 
     private static void transit() {
         C.promise(23);
-        Buildmill b = withFiles();
+        Buildmill b = Mills.withFiles();
         b.target(0, Buildmill.JOIN, 1);
         b.choose(0, 2, 3, 7);
-        of(b, Buildmill.JOIN, 10, 0);
+        Mills.of(b, Buildmill.JOIN, 10, 0);
         b.choose(1, 2, 3, 20);
-        of(b, Buildmill.JOIN, 100, 1, 0);
+        Mills.of(b, Buildmill.JOIN, 100, 1, 0);
         C.due("no transition", b.outputFromNothing(2), 100 + 11 + 2 * 1);
         b.transit(1, 2, 3);
         C.due("of the targets among its items", b.outputFromNothing(1), 10 + 7);
@@ -781,9 +760,9 @@ public final class PromisesTest {
 
     private static void work() {
         C.promise(24);
-        Buildmill b = withFiles();
-        one(b, Buildmill.JOIN, 0, 0);
-        one(b, Buildmill.JOIN, 0, 0);
+        Buildmill b = Mills.withFiles();
+        Mills.one(b, Buildmill.JOIN, 0, 0);
+        Mills.one(b, Buildmill.JOIN, 0, 0);
         b.work(0, 0, 20, false);
         b.work(1, 1, 3, false);
         b.build(3, false, 0);
@@ -796,7 +775,7 @@ public final class PromisesTest {
         b.work(1, 1, 7, false);
         b.build(2, false, 0);
         C.due("another duration, and warm", b.told(0), 4);
-        one(b, Buildmill.JOIN, 5, 1);
+        Mills.one(b, Buildmill.JOIN, 5, 1);
         b.depend(2, 1);
         b.depend(2, 0);
         b.write(0, 4);
@@ -812,8 +791,8 @@ public final class PromisesTest {
 
     private static void shards() {
         C.promise(25);
-        Buildmill b = withFiles();
-        one(b, Buildmill.JOIN, 0, 0);
+        Buildmill b = Mills.withFiles();
+        Mills.one(b, Buildmill.JOIN, 0, 0);
         C.noState("none at first", () -> b.test(0));
         b.shards(0, 4, 0);
         C.due("contents 1 to 4", b.test(0), 3);
@@ -832,12 +811,12 @@ public final class PromisesTest {
 
     private static void targetError() {
         C.promise(26);
-        Buildmill b = withFiles();
-        one(b, Buildmill.JOIN, 0, 0);
+        Buildmill b = Mills.withFiles();
+        Mills.one(b, Buildmill.JOIN, 0, 0);
         C.due("no error", b.targetError(0, 0), NONE);
         b.source(0, 8);
-        of(b, Buildmill.JOIN, 0, 0);
-        of(b, Buildmill.JOIN, 0, 1);
+        Mills.of(b, Buildmill.JOIN, 0, 0);
+        Mills.of(b, Buildmill.JOIN, 0, 1);
         C.due("MISSING", b.targetError(0, 0), Buildmill.MISSING);
         C.due("DEPENDS", b.targetError(2, 0), 20 + Buildmill.DEPENDS);
         C.due("DEPENDS below", b.targetError(2, 1), 10 + Buildmill.DEPENDS);
@@ -857,7 +836,7 @@ public final class PromisesTest {
         b.source(3, 8);
         C.due("MISSING ahead of TOO_MANY", b.targetError(3, 0), 30 + Buildmill.MISSING);
 
-        Buildmill all = withFiles();
+        Buildmill all = Mills.withFiles();
         all.target(1, Buildmill.JOIN, 0);
         all.numberFrom(0, 0, 0);
         all.uses(0, 0);
@@ -886,46 +865,31 @@ public final class PromisesTest {
 
     // ---- how it is built
 
-    /** Targets with a path each, that run for a time by the kind 0. */
-    private static Buildmill withRuns(int many, int duration, boolean isBoth) {
-        Buildmill b = withFiles();
-        for (int i = 0; i < many; i++) {
-            one(b, Buildmill.JOIN, 100, i);
-            b.work(i, 0, duration, isBoth);
-        }
-        return b;
-    }
-
-    private static int timeOf(Buildmill b, int targets) {
-        b.build(targets, true, 0);
-        return b.told(0);
-    }
-
     private static void workers() {
         C.promise(27);
-        C.due("one worker, that is warm then", timeOf(withRuns(3, 4, false), 7), 8);
-        Buildmill two = withRuns(3, 4, false);
+        C.due("one worker, that is warm then", Mills.timeOf(Mills.withRuns(3, 4, false), 7), 8);
+        Buildmill two = Mills.withRuns(3, 4, false);
         C.due("there was one", two.workers(0, 2), 1);
-        C.due("two workers", timeOf(two, 7), 6);
-        Buildmill four = withRuns(5, 5, false);
+        C.due("two workers", Mills.timeOf(two, 7), 6);
+        Buildmill four = Mills.withRuns(5, 5, false);
         C.due("one of another kind", four.workers(2, 4), 1);
-        C.due("do not help", timeOf(four, 31), 5 + 4 * 3);
+        C.due("do not help", Mills.timeOf(four, 31), 5 + 4 * 3);
         for (int path = 0; path < 5; path++) four.write(path, path + 2);
         C.due("four", four.workers(0, 4), 1);
-        C.due("one is warm, three are not", timeOf(four, 31), 6);
+        C.due("one is warm, three are not", Mills.timeOf(four, 31), 6);
         C.due("there were four", four.workers(0, 4), 4);
 
-        Buildmill gone = withRuns(2, 4, false);
+        Buildmill gone = Mills.withRuns(2, 4, false);
         gone.workers(0, 2);
         gone.build(3, false, 0);
         gone.write(0, 5);
         gone.write(1, 5);
-        C.due("both are warm", timeOf(gone, 3), 2);
+        C.due("both are warm", Mills.timeOf(gone, 3), 2);
         C.due("the highest number goes", gone.workers(0, 1), 2);
         C.due("and a new one comes", gone.workers(0, 2), 1);
         gone.write(0, 6);
         gone.write(1, 6);
-        C.due("that is not warm", timeOf(gone, 3), 4);
+        C.due("that is not warm", Mills.timeOf(gone, 3), 4);
         C.due("the first on the warm one", gone.became(0, 2), 2);
         C.noPlace("kind -1", () -> gone.workers(-1, 1));
         C.noPlace("kind 3 ahead of many", () -> gone.workers(3, 0));
@@ -933,7 +897,7 @@ public final class PromisesTest {
         C.noRange("5", () -> gone.workers(0, 5));
         C.due("nothing changed", gone.workers(0, 2), 2);
 
-        Buildmill versions = withRuns(2, 4, false);
+        Buildmill versions = Mills.withRuns(2, 4, false);
         versions.toolchain(0, NONE, 0, 5);
         versions.uses(1, 0);
         versions.workers(0, 2);
@@ -956,7 +920,7 @@ public final class PromisesTest {
         b.pack(1, true);
         b.write(0, 536);
         b.write(8, 3);
-        one(b, Buildmill.INCLUDE, 0, 0);
+        Mills.one(b, Buildmill.INCLUDE, 0, 0);
         return b;
     }
 
@@ -982,7 +946,7 @@ public final class PromisesTest {
 
     private static void far() {
         C.promise(29);
-        Buildmill b = withRuns(1, 7, false);
+        Buildmill b = Mills.withRuns(1, 7, false);
         C.due("could be reached", b.far(false, 2), true);
         b.build(1, false, 0);
         C.due("nothing is put", b.entries(true), 0);
@@ -995,13 +959,13 @@ public final class PromisesTest {
         b.build(1, false, 0);
         b.forget(false);
         b.write(0, 7);
-        C.due("with the latency", timeOf(b, 1), 9);
+        C.due("with the latency", Mills.timeOf(b, 1), 9);
         C.due("from far", b.became(0, 0), Buildmill.FROM_FAR);
         C.due("put near as well", b.entries(false), 1);
         b.forget(false);
         b.write(0, 8);
         b.far(true, 1);
-        C.due("with another latency", timeOf(b, 1), 1);
+        C.due("with another latency", Mills.timeOf(b, 1), 1);
         b.forget(false);
         b.write(0, 7);
         b.far(false, 1);
@@ -1014,8 +978,8 @@ public final class PromisesTest {
 
     /** Two targets of which the second one was run far, with the content 111; target 2 is of the second. */
     private static Buildmill ranFar() {
-        Buildmill b = withRuns(2, 10, true);
-        of(b, Buildmill.JOIN, 0, 1);
+        Buildmill b = Mills.withRuns(2, 10, true);
+        Mills.of(b, Buildmill.JOIN, 0, 1);
         b.work(2, 0, 5, false);
         b.build(3, false, 0);
         return b;
@@ -1030,38 +994,38 @@ public final class PromisesTest {
         C.due("those run here are far, too", b.lose(101), true);
         C.due("no content of a file", b.lose(11), false);
         C.due("the entries stay", b.entries(true), 2);
-        C.due("run again, with its own duration", timeOf(b, 4), 3 + 10);
+        C.due("run again, with its own duration", Mills.timeOf(b, 4), 3 + 10);
         C.due("once", b.told(9), 1);
         C.due("nothing fetched", b.told(10), 0);
         b.write(3, 5);
         b.source(2, 3);
-        C.due("now the bytes are here", timeOf(b, 4), 3);
+        C.due("now the bytes are here", Mills.timeOf(b, 4), 3);
         C.noRange("-1", () -> b.lose(-1));
         C.noRange("1000", () -> b.lose(1000));
 
         Buildmill fetching = ranFar();
-        C.due("fetched without time", timeOf(fetching, 4), 3);
+        C.due("fetched without time", Mills.timeOf(fetching, 4), 3);
         C.due("one", fetching.told(10), 1);
         C.due("none again", fetching.told(9), 0);
 
         Buildmill cut = ranFar();
         cut.far(false, 2);
-        C.due("not to be reached", timeOf(cut, 4), 13);
+        C.due("not to be reached", Mills.timeOf(cut, 4), 13);
         C.due("again", cut.told(9), 1);
 
-        Buildmill deep = withRuns(2, 10, true);
-        of(deep, Buildmill.JOIN, 200, 1);
+        Buildmill deep = Mills.withRuns(2, 10, true);
+        Mills.of(deep, Buildmill.JOIN, 200, 1);
         deep.work(2, 0, 19, true);
-        one(deep, Buildmill.JOIN, 500, 3);
+        Mills.one(deep, Buildmill.JOIN, 500, 3);
         deep.work(3, 0, 20, false);
-        of(deep, Buildmill.JOIN, 0, 2, 1);
+        Mills.of(deep, Buildmill.JOIN, 0, 2, 1);
         deep.work(4, 0, 7, false);
         deep.build(3, false, 0);
         deep.build(8 | 4, false, 0);
         C.due("the second was run far", deep.became(deep.actionOf(2), 0), Buildmill.RAN_FAR);
         deep.lose(111);
         deep.lose(311);
-        C.due("all below is run again, once", timeOf(deep, 16), 4 + 10 + 19);
+        C.due("all below is run again, once", Mills.timeOf(deep, 16), 4 + 10 + 19);
         C.due("two", deep.told(9), 2);
 
         Buildmill fromFar = ranFar();
@@ -1078,8 +1042,8 @@ public final class PromisesTest {
 
     /** Target 0 keeps the worker busy, so that the others are run far. */
     private static Buildmill withBusyWorker() {
-        Buildmill b = withFiles();
-        one(b, Buildmill.JOIN, 100, 0);
+        Buildmill b = Mills.withFiles();
+        Mills.one(b, Buildmill.JOIN, 100, 0);
         b.work(0, 0, 20, false);
         b.far(true, 1);
         return b;
@@ -1089,37 +1053,37 @@ public final class PromisesTest {
         C.promise(30);
         Buildmill two = withBusyWorker();
         for (int first = 1; first < 5; first += 2) {
-            one(two, Buildmill.JOIN, 100 * first, first);
-            of(two, Buildmill.JOIN, 200 * first, first);
+            Mills.one(two, Buildmill.JOIN, 100 * first, first);
+            Mills.of(two, Buildmill.JOIN, 200 * first, first);
             two.work(first, 0, 2, true);
             two.work(first + 1, 0, 3, true);
         }
         two.build(31, false, 0);
         C.due("four were run far", two.told(1 + Buildmill.RAN_FAR), 4);
-        of(two, Buildmill.JOIN, 7, 2, 4, 1);
+        Mills.of(two, Buildmill.JOIN, 7, 2, 4, 1);
         two.work(5, 0, 5, false);
         two.far(false, 1);
-        C.due("both ways down", timeOf(two, 32), 3 + 2 + 3 + 2 + 3);
+        C.due("both ways down", Mills.timeOf(two, 32), 3 + 2 + 3 + 2 + 3);
         C.due("four are run again", two.told(9), 4);
 
         Buildmill chain = withBusyWorker();
-        one(chain, Buildmill.JOIN, 7, 1);
+        Mills.one(chain, Buildmill.JOIN, 7, 1);
         chain.work(1, 0, 1, true);
         for (int target = 2; target < 15; target++) {
-            of(chain, Buildmill.JOIN, 7, target - 1);
+            Mills.of(chain, Buildmill.JOIN, 7, target - 1);
             chain.work(target, 0, 1, true);
         }
         chain.build(1 | 1 << 9, false, 0);
         chain.write(0, 500);
         chain.build(1 | 1 << 14, false, 0);
-        of(chain, Buildmill.STRIP, 0, 14);
+        Mills.of(chain, Buildmill.STRIP, 0, 14);
         chain.far(false, 1);
-        C.due("all the way down", timeOf(chain, 1 << 15), 15);
+        C.due("all the way down", Mills.timeOf(chain, 1 << 15), 15);
         C.due("14 are run again", chain.told(9), 14);
         chain.write(0, 501);
         chain.source(15, 0);
         chain.work(15, 0, 3, false);
-        C.due("and not once more", timeOf(chain, 1 << 15), 2);
+        C.due("and not once more", Mills.timeOf(chain, 1 << 15), 2);
     }
 
     private static void forget() {
@@ -1130,7 +1094,7 @@ public final class PromisesTest {
         C.due("far stays", b.entries(true), 2);
         C.due("far", b.forget(true), 2);
         C.due("none", b.forget(true), 0);
-        C.due("what is kept stays", timeOf(b, 3), 0);
+        C.due("what is kept stays", Mills.timeOf(b, 3), 0);
         C.due("up to date", b.told(1), 2);
         b.build(4, false, 0);
         C.due("bytes stay far", b.told(10), 1);
@@ -1146,7 +1110,7 @@ public final class PromisesTest {
 
     private static void entries() {
         C.promise(32);
-        Buildmill b = withRuns(1, 1, false);
+        Buildmill b = Mills.withRuns(1, 1, false);
         for (int content = 0; content < 41; content++) {
             b.write(0, content);
             b.build(1, false, 0);
@@ -1175,7 +1139,7 @@ public final class PromisesTest {
         b.build(1, false, 0);
         C.due("then the second", b.became(0, 0), Buildmill.RAN);
 
-        Buildmill alike = withRuns(1, 1, false);
+        Buildmill alike = Mills.withRuns(1, 1, false);
         alike.build(1, false, 0);
         alike.write(0, 2);
         alike.far(false, 2);
@@ -1206,7 +1170,7 @@ public final class PromisesTest {
 
         Buildmill seen = new Buildmill();
         seen.write(0, 501);
-        one(seen, Buildmill.INCLUDE, 0, 0);
+        Mills.one(seen, Buildmill.INCLUDE, 0, 0);
         seen.write(21, 1);
         seen.build(1, false, 0);
         seen.write(21, 2);
@@ -1223,10 +1187,10 @@ public final class PromisesTest {
 
     private static void build() {
         C.promise(33);
-        Buildmill b = withFiles();
-        one(b, Buildmill.JOIN, 0, 0);
-        one(b, Buildmill.JOIN, 0, 1);
-        of(b, Buildmill.JOIN, 3, 0);
+        Buildmill b = Mills.withFiles();
+        Mills.one(b, Buildmill.JOIN, 0, 0);
+        Mills.one(b, Buildmill.JOIN, 0, 1);
+        Mills.of(b, Buildmill.JOIN, 3, 0);
         b.work(0, 0, 2, false);
         b.work(1, 0, 5, false);
         b.work(2, 0, 10, false);
@@ -1266,7 +1230,7 @@ public final class PromisesTest {
     }
 
     private static void overfull() {
-        Buildmill b = withFiles();
+        Buildmill b = Mills.withFiles();
         for (int target = 0; target < 16; target++) {
             b.target(0, Buildmill.JOIN, target);
             b.uses(target, 0);
@@ -1296,10 +1260,10 @@ public final class PromisesTest {
 
     private static void buildWithErrors() {
         C.promise(33);
-        Buildmill b = withFiles();
-        one(b, Buildmill.JOIN, 1, 0);
-        one(b, Buildmill.JOIN, 2, 40);
-        of(b, Buildmill.JOIN, 3, 0, 1);
+        Buildmill b = Mills.withFiles();
+        Mills.one(b, Buildmill.JOIN, 1, 0);
+        Mills.one(b, Buildmill.JOIN, 2, 40);
+        Mills.of(b, Buildmill.JOIN, 3, 0, 1);
         b.work(0, 0, 4, false);
         b.build(1, false, 0);
         C.due("an error", b.build(5, false, 0), NONE);
@@ -1315,11 +1279,11 @@ public final class PromisesTest {
         C.due("only errors", b.build(6, true, 0), 0);
         C.due("take no time", b.told(0), 0);
 
-        Buildmill f = withFiles();
-        one(f, Buildmill.CHECK, 6, 0);
-        one(f, Buildmill.JOIN, 2, 1);
-        of(f, Buildmill.JOIN, 3, 0);
-        of(f, Buildmill.JOIN, 4, 2, 1);
+        Buildmill f = Mills.withFiles();
+        Mills.one(f, Buildmill.CHECK, 6, 0);
+        Mills.one(f, Buildmill.JOIN, 2, 1);
+        Mills.of(f, Buildmill.JOIN, 3, 0);
+        Mills.of(f, Buildmill.JOIN, 4, 2, 1);
         f.work(0, 0, 2, false);
         f.work(1, 1, 3, false);
         C.due("a failure, and it goes on", f.build(15, true, 0), 1);
@@ -1331,7 +1295,7 @@ public final class PromisesTest {
         C.due("nor began", f.became(3, 1), NONE);
         C.due("until all ended", f.told(0), 3);
         f.write(1, 12);
-        one(f, Buildmill.JOIN, 9, 2);
+        Mills.one(f, Buildmill.JOIN, 9, 2);
         f.work(4, 1, 1, false);
         C.due("a failure stops", f.build(31, false, 0), 1);
         C.due("what has begun ends", f.became(1, 0), Buildmill.RAN);
@@ -1345,8 +1309,8 @@ public final class PromisesTest {
 
     private static void buildInTime() {
         C.promise(33);
-        Buildmill b = withFiles();
-        for (int i = 0; i < 3; i++) one(b, Buildmill.JOIN, 100, i);
+        Buildmill b = Mills.withFiles();
+        for (int i = 0; i < 3; i++) Mills.one(b, Buildmill.JOIN, 100, i);
         b.work(0, 0, 1, false);
         b.work(1, 0, 1, false);
         b.work(2, 0, 9, false);
@@ -1358,7 +1322,7 @@ public final class PromisesTest {
         Buildmill found = new Buildmill();
         found.write(0, 500);
         found.write(20, 501);
-        one(found, Buildmill.INCLUDE, 7, 0);
+        Mills.one(found, Buildmill.INCLUDE, 7, 0);
         found.build(1, false, 0);
         C.due("what is found counts", found.output(0), (7 + 500 + 501) % 1000);
         found.build(1, false, 0);
@@ -1406,9 +1370,9 @@ public final class PromisesTest {
 
     private static void buildWithLimit() {
         C.promise(33);
-        Buildmill b = withRuns(3, 4, false);
+        Buildmill b = Mills.withRuns(3, 4, false);
         b.workers(0, 2);
-        of(b, Buildmill.JOIN, 0, 0);
+        Mills.of(b, Buildmill.JOIN, 0, 0);
         C.due("at the limit all that ends is done", b.build(15, false, 4), 2);
         C.due("first", b.became(0, 0), Buildmill.RAN);
         C.due("nothing begins at the limit", b.became(2, 0), Buildmill.SKIPPED);
@@ -1420,17 +1384,17 @@ public final class PromisesTest {
         C.due("when it ended", b.became(2, 2), 1);
         C.due("nothing is kept", b.output(2), NONE);
         C.due("nothing is put", b.entries(false), 2);
-        C.due("the worker is not warm", timeOf(b, 4), 2);
+        C.due("the worker is not warm", Mills.timeOf(b, 4), 2);
         b.write(2, 500);
         C.due("within a limit", b.build(4, false, 500), 1);
         C.due("it ends when nothing runs", b.told(0), 2);
 
-        Buildmill cold = withRuns(1, 4, false);
+        Buildmill cold = Mills.withRuns(1, 4, false);
         cold.build(1, false, 0);
         cold.write(0, 2);
         cold.build(1, false, 1);
         C.due("one worker, cancelled", cold.told(1 + Buildmill.CANCELLED), 1);
-        C.due("is warm for none", timeOf(cold, 1), 4);
+        C.due("is warm for none", Mills.timeOf(cold, 1), 4);
         cold.write(0, 3);
         cold.build(1, false, 0);
         cold.forget(false);
@@ -1446,7 +1410,7 @@ public final class PromisesTest {
 
     private static void buildInBothWays() {
         C.promise(33);
-        Buildmill b = withRuns(3, 10, true);
+        Buildmill b = Mills.withRuns(3, 10, true);
         C.due("all are done", b.build(7, false, 0), 3);
         C.due("here ends first", b.became(0, 0), Buildmill.RAN);
         C.due("at its time", b.became(0, 2), 10);
@@ -1462,8 +1426,8 @@ public final class PromisesTest {
         C.due("not to be reached: here", b.told(1 + Buildmill.RAN), 1);
         C.due("the other one takes its entry", b.told(1 + Buildmill.NEAR), 1);
 
-        Buildmill tie = withRuns(2, 2, true);
-        of(tie, Buildmill.JOIN, 0, 1);
+        Buildmill tie = Mills.withRuns(2, 2, true);
+        Mills.of(tie, Buildmill.JOIN, 0, 1);
         tie.work(2, 0, 5, true);
         tie.far(true, 1);
         tie.build(3, false, 0);
@@ -1473,8 +1437,8 @@ public final class PromisesTest {
         C.due("here is first, though bytes were missing", tie.became(2, 0), Buildmill.RAN);
         C.due("half of 5, and 2", tie.became(2, 2), 5);
 
-        Buildmill lost = withRuns(2, 20, true);
-        of(lost, Buildmill.JOIN, 0, 1);
+        Buildmill lost = Mills.withRuns(2, 20, true);
+        Mills.of(lost, Buildmill.JOIN, 0, 1);
         lost.work(2, 0, 5, true);
         lost.build(3, false, 0);
         lost.lose(111);
@@ -1484,10 +1448,10 @@ public final class PromisesTest {
         C.due("its time", lost.told(0), 7);
         lost.write(0, 500);
         lost.work(0, 0, 9, false);
-        C.due("the worker's run ended without anything", timeOf(lost, 1), 9);
+        C.due("the worker's run ended without anything", Mills.timeOf(lost, 1), 9);
 
-        Buildmill same = withRuns(2, 4, true);
-        of(same, Buildmill.JOIN, 0, 1);
+        Buildmill same = Mills.withRuns(2, 4, true);
+        Mills.of(same, Buildmill.JOIN, 0, 1);
         same.work(2, 0, 6, true);
         same.far(true, 1);
         same.build(3, false, 0);
@@ -1497,15 +1461,15 @@ public final class PromisesTest {
         C.due("3 and 4 are 6 and 1", same.became(2, 2), 7);
         same.write(0, 500);
         same.work(0, 0, 9, false);
-        C.due("and the worker is warm", timeOf(same, 1), 5);
+        C.due("and the worker is warm", Mills.timeOf(same, 1), 5);
     }
 
     private static void told() {
         C.promise(34);
-        Buildmill b = withFiles();
-        one(b, Buildmill.CHECK, 6, 0);
-        one(b, Buildmill.JOIN, 200, 1);
-        of(b, Buildmill.JOIN, 0, 0);
+        Buildmill b = Mills.withFiles();
+        Mills.one(b, Buildmill.CHECK, 6, 0);
+        Mills.one(b, Buildmill.JOIN, 200, 1);
+        Mills.of(b, Buildmill.JOIN, 0, 0);
         b.work(1, 1, 9, false);
         b.build(7, true, 5);
         int[] due = {5, 0, 0, 0, 0, 0, 1, 1, 1, 0, 0, 0};
@@ -1537,7 +1501,7 @@ public final class PromisesTest {
         C.due("no action again", l.told(9), 0);
 
         Buildmill far = looking();
-        one(far, Buildmill.JOIN, 0, 0);
+        Mills.one(far, Buildmill.JOIN, 0, 0);
         far.work(0, 0, 3, true);
         far.work(1, 0, 9, false);
         far.build(3, false, 0);
@@ -1548,10 +1512,10 @@ public final class PromisesTest {
 
     private static void failedFirst() {
         C.promise(35);
-        Buildmill b = withFiles();
-        one(b, Buildmill.CHECK, 6, 0);
-        one(b, Buildmill.CHECK, 3, 1);
-        one(b, Buildmill.CHECK, 0, 2);
+        Buildmill b = Mills.withFiles();
+        Mills.one(b, Buildmill.CHECK, 6, 0);
+        Mills.one(b, Buildmill.CHECK, 3, 1);
+        Mills.one(b, Buildmill.CHECK, 0, 2);
         b.work(0, 0, 5, false);
         b.work(1, 1, 3, false);
         b.work(2, 2, 3, false);
@@ -1571,11 +1535,11 @@ public final class PromisesTest {
 
     private static void critical() {
         C.promise(36);
-        Buildmill b = withFiles();
-        one(b, Buildmill.JOIN, 0, 0);
-        one(b, Buildmill.JOIN, 1, 1);
-        of(b, Buildmill.JOIN, 2, 0, 1);
-        one(b, Buildmill.JOIN, 3, 3);
+        Buildmill b = Mills.withFiles();
+        Mills.one(b, Buildmill.JOIN, 0, 0);
+        Mills.one(b, Buildmill.JOIN, 1, 1);
+        Mills.of(b, Buildmill.JOIN, 2, 0, 1);
+        Mills.one(b, Buildmill.JOIN, 3, 3);
         b.work(0, 0, 3, false);
         b.work(1, 1, 5, false);
         b.work(2, 0, 1, false);
@@ -1602,9 +1566,9 @@ public final class PromisesTest {
         C.due("and has no more below it", b.critical(2), NONE);
         C.noPlace("-1", () -> b.critical(-1));
 
-        Buildmill f = withFiles();
-        one(f, Buildmill.CHECK, 6, 0);
-        of(f, Buildmill.JOIN, 0, 0);
+        Buildmill f = Mills.withFiles();
+        Mills.one(f, Buildmill.CHECK, 6, 0);
+        Mills.of(f, Buildmill.JOIN, 0, 0);
         f.build(2, true, 0);
         C.due("failed counts", f.critical(0), 0);
         C.due("skipped does not", f.critical(1), NONE);
@@ -1612,10 +1576,10 @@ public final class PromisesTest {
 
     private static void actions() {
         C.promise(37);
-        Buildmill b = withFiles();
-        one(b, Buildmill.JOIN, 0, 0);
-        of(b, Buildmill.JOIN, 1, 0, 0);
-        one(b, Buildmill.JOIN, 0, 0);
+        Buildmill b = Mills.withFiles();
+        Mills.one(b, Buildmill.JOIN, 0, 0);
+        Mills.of(b, Buildmill.JOIN, 1, 0, 0);
+        Mills.one(b, Buildmill.JOIN, 0, 0);
         C.due("not by asking", b.actionOf(1), NONE);
         b.outputFromNothing(1);
         C.due("none", b.actions(), 0);
@@ -1646,9 +1610,9 @@ public final class PromisesTest {
 
     private static void actionOf() {
         C.promise(38);
-        Buildmill b = withFiles();
-        one(b, Buildmill.JOIN, 0, 0);
-        of(b, Buildmill.JOIN, 1, 0);
+        Buildmill b = Mills.withFiles();
+        Mills.one(b, Buildmill.JOIN, 0, 0);
+        Mills.of(b, Buildmill.JOIN, 1, 0);
         C.due("not yet", b.actionOf(0), NONE);
         b.build(2, false, 0);
         C.due("the input first", b.actionOf(0), 0);
@@ -1679,9 +1643,9 @@ public final class PromisesTest {
 
     private static void input() {
         C.promise(39);
-        Buildmill b = withFiles();
-        one(b, Buildmill.JOIN, 0, 7);
-        one(b, Buildmill.JOIN, 0, 2);
+        Buildmill b = Mills.withFiles();
+        Mills.one(b, Buildmill.JOIN, 0, 7);
+        Mills.one(b, Buildmill.JOIN, 0, 2);
         b.depend(1, 0);
         b.glob(1, 8 | 2, false);
         b.build(2, false, 0);
@@ -1701,7 +1665,7 @@ public final class PromisesTest {
 
     private static void became() {
         C.promise(40);
-        Buildmill b = withRuns(2, 4, false);
+        Buildmill b = Mills.withRuns(2, 4, false);
         b.build(3, false, 0);
         C.due("RAN", b.became(1, 0), Buildmill.RAN);
         C.due("began", b.became(1, 1), 4);
@@ -1759,7 +1723,7 @@ public final class PromisesTest {
         C.due("not kept", b.found(1, 0), NONE);
         Buildmill ring = new Buildmill();
         for (int path = 0; path < 48; path++) ring.write(path, 528 + (path + 1) % 48);
-        one(ring, Buildmill.INCLUDE, 0, 0);
+        Mills.one(ring, Buildmill.INCLUDE, 0, 0);
         ring.build(1, false, 0);
         for (int place = 0; place < 48; place++) {
             int path = (place + 1) % 48;
@@ -1773,9 +1737,9 @@ public final class PromisesTest {
 
     private static void output() {
         C.promise(42);
-        Buildmill b = withFiles();
-        one(b, Buildmill.JOIN, 100, 0);
-        of(b, Buildmill.CHECK, 0, 0);
+        Buildmill b = Mills.withFiles();
+        Mills.one(b, Buildmill.JOIN, 100, 0);
+        Mills.of(b, Buildmill.CHECK, 0, 0);
         C.due("never done", b.output(0), NONE);
         b.build(1, false, 0);
         C.due("done", b.output(0), 101);
@@ -1808,10 +1772,10 @@ public final class PromisesTest {
 
     private static void outputFromNothing() {
         C.promise(43);
-        Buildmill b = withFiles();
-        one(b, Buildmill.JOIN, 100, 0);
-        of(b, Buildmill.CHECK, 0, 0);
-        of(b, Buildmill.TALLY, 0, 1, 0);
+        Buildmill b = Mills.withFiles();
+        Mills.one(b, Buildmill.JOIN, 100, 0);
+        Mills.of(b, Buildmill.CHECK, 0, 0);
+        Mills.of(b, Buildmill.TALLY, 0, 1, 0);
         C.due("without a build", b.outputFromNothing(0), 101);
         C.due("the check", b.outputFromNothing(1), 0);
         C.due("all", b.outputFromNothing(2), 2);
@@ -1831,11 +1795,11 @@ public final class PromisesTest {
     /** Ways beyond number: each target has the one before it six times. */
     private static void manyWays() {
         C.promise(33);
-        Buildmill b = withFiles();
-        one(b, Buildmill.JOIN, 0, 0);
+        Buildmill b = Mills.withFiles();
+        Mills.one(b, Buildmill.JOIN, 0, 0);
         int content = 1;
         for (int target = 1; target < 16; target++) {
-            of(b, Buildmill.JOIN, target, target - 1, target - 1, target - 1, target - 1, target - 1, target - 1);
+            Mills.of(b, Buildmill.JOIN, target, target - 1, target - 1, target - 1, target - 1, target - 1, target - 1);
             content = (target + 21 * content) % 1000;
         }
         C.due("from nothing", b.outputFromNothing(15), content);
@@ -1854,8 +1818,8 @@ public final class PromisesTest {
 
     private static void test() {
         C.promise(44);
-        Buildmill b = withFiles();
-        one(b, Buildmill.JOIN, 0, 0);
+        Buildmill b = Mills.withFiles();
+        Mills.one(b, Buildmill.JOIN, 0, 0);
         b.work(0, 0, 6, false);
         b.shards(0, 4, 0);
         C.due("contents 1 to 4, of which 3 is not sound", b.test(0), 3);
@@ -1866,7 +1830,7 @@ public final class PromisesTest {
         C.due("not sound", b.shard(0, 0), Buildmill.BROKEN);
         b.shards(0, 1, 0);
         C.due("none passed", b.test(0), 0);
-        one(b, Buildmill.CHECK, 4, 0);
+        Mills.one(b, Buildmill.CHECK, 4, 0);
         b.shards(1, 4, 0);
         C.due("it fails", b.test(1), NONE);
         C.due("failed", b.failedFirst(), 1);
@@ -1874,13 +1838,13 @@ public final class PromisesTest {
         C.due("in error", b.test(0), NONE);
         C.due("what became of it stays", b.shard(0, 0), Buildmill.BROKEN);
         C.due("alone", b.told(1), 0);
-        one(b, Buildmill.JOIN, 0, 1);
+        Mills.one(b, Buildmill.JOIN, 0, 1);
         C.noState("no shards", () -> b.test(2));
         C.noPlace("3", () -> b.test(3));
         C.noPlace("-1", () -> b.test(-1));
 
-        Buildmill luck = withFiles();
-        one(luck, Buildmill.JOIN, 0, 0);
+        Buildmill luck = Mills.withFiles();
+        Mills.one(luck, Buildmill.JOIN, 0, 0);
         luck.shards(0, 3, 5);
         luck.write(0, 4);
         C.due("two of three passed at once", luck.test(0), 2);
@@ -1893,8 +1857,8 @@ public final class PromisesTest {
 
     private static void shard() {
         C.promise(45);
-        Buildmill b = withFiles();
-        one(b, Buildmill.JOIN, 0, 0);
+        Buildmill b = Mills.withFiles();
+        Mills.one(b, Buildmill.JOIN, 0, 0);
         b.shards(0, 3, 0);
         for (int k = 0; k < 4; k++) C.due("no test yet", b.shard(0, k), NONE);
         b.test(0);
@@ -1917,9 +1881,9 @@ public final class PromisesTest {
 
     private static void tries() {
         C.promise(46);
-        Buildmill b = withFiles();
-        one(b, Buildmill.JOIN, 0, 0);
-        one(b, Buildmill.JOIN, 0, 0);
+        Buildmill b = Mills.withFiles();
+        Mills.one(b, Buildmill.JOIN, 0, 0);
+        Mills.one(b, Buildmill.JOIN, 0, 0);
         b.shards(0, 3, 0);
         b.shards(1, 3, 0);
         b.test(0);
@@ -1968,8 +1932,8 @@ public final class PromisesTest {
 
     private static void seed() {
         C.promise(47);
-        Buildmill b = withFiles();
-        one(b, Buildmill.JOIN, 0, 0);
+        Buildmill b = Mills.withFiles();
+        Mills.one(b, Buildmill.JOIN, 0, 0);
         b.write(0, 4);
         int[] draws = {8, 8, 3, 5, 1, 7, 0, 9, 2, 6};
         for (int luck = 1; luck < 10; luck++) {
@@ -2016,13 +1980,13 @@ public final class PromisesTest {
     /** 5 is of 4 and 3, 4 of 2, 3 of 2 and 1, 2 of 0, 1 of 0; 6 is alone. */
     private static Buildmill graph() {
         Buildmill b = new Buildmill();
-        of(b, Buildmill.JOIN, 0);
-        of(b, Buildmill.JOIN, 0, 0);
-        of(b, Buildmill.JOIN, 0, 0);
-        of(b, Buildmill.JOIN, 0, 2, 1);
-        of(b, Buildmill.JOIN, 0, 2);
-        of(b, Buildmill.JOIN, 0, 4, 3);
-        of(b, Buildmill.JOIN, 0);
+        Mills.of(b, Buildmill.JOIN, 0);
+        Mills.of(b, Buildmill.JOIN, 0, 0);
+        Mills.of(b, Buildmill.JOIN, 0, 0);
+        Mills.of(b, Buildmill.JOIN, 0, 2, 1);
+        Mills.of(b, Buildmill.JOIN, 0, 2);
+        Mills.of(b, Buildmill.JOIN, 0, 4, 3);
+        Mills.of(b, Buildmill.JOIN, 0);
         return b;
     }
 
