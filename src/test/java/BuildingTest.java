@@ -283,6 +283,27 @@ public final class BuildingTest {
         C.due("24", b.entries(false), 24);
         b.far(false, 1);
         C.due("the earliest is still there", becameWith(b, 2, 100, 2), NEAR);
+
+        Buildmill far = Mills.withRuns(4, 1, false);
+        far.write(1, 1);
+        far.workers(0, 3);
+        far.work(2, 0, 2, false);
+        far.work(1, 0, 3, false);
+        far.build(7, false, 0);
+        C.due("far: the first, another one, and one alike to the first", far.entries(true), 2);
+        for (int content = 500; content < 539; content++) {
+            far.write(3, content);
+            far.build(8, false, 0);
+        }
+        C.due("one of 41 went", far.entries(true), 40);
+        far.far(false, 1);
+        far.write(0, 700);
+        far.write(2, 700);
+        far.build(5, false, 0);
+        far.far(true, 1);
+        far.forget(false);
+        C.due("not the one that was put again, behind the other", becameWith(far, 0, 1, 0), FROM_FAR);
+        C.due("but the other", becameWith(far, 2, 21, 2), RAN);
     }
 
     /** Target 1 has the content 111, whose bytes are far, and not here. Target 2 is of it. */
@@ -459,6 +480,12 @@ public final class BuildingTest {
         cut.far(false, 1);
         cut.build(1, false, 0);
         C.due("not put, for it was not to be reached", cut.lose(101), false);
+        cut.far(true, 1);
+        cut.write(0, 2);
+        cut.build(1, false, 0);
+        cut.far(false, 1);
+        C.due("bytes are lost, too, when it is not to be reached", cut.lose(102), true);
+        C.due("and are lost then", cut.lose(102), false);
         Buildmill more = new Buildmill();
         more.pack(1, true);
         more.write(0, 536);
@@ -670,6 +697,20 @@ public final class BuildingTest {
         C.noState("nor in one that goes on", () -> more.build(targets, true, 0));
         C.due("without that it has place", more.build(1 << 6, false, 0), 1);
         C.due("one", more.actions(), 1);
+        Buildmill tested = hundredAndTwenty();
+        tested.build(targets, false, 0);
+        tested.shards(6, 3, 0);
+        tested.test(6);
+        C.due("three tries", tested.tries(), 3);
+        C.due("by one build", tested.told(1), 1);
+        tested.choose(6, 3, 1, 103);
+        tested.setting(2, 1);
+        tested.setting(3, 1);
+        C.noState("not by a test", () -> tested.test(6));
+        C.due("tries of the last one that was made", tested.tries(), 3);
+        C.due("its build", tested.told(1), 1);
+        C.due("no shard changed", tested.shard(6, 2) == NONE, false);
+        C.due("120 still", tested.actions(), 120);
     }
 
     private static void endingByNumbers() {
@@ -958,6 +999,16 @@ public final class BuildingTest {
         warm.workers(0, 1);
         warm.write(0, 501);
         C.due("which is warm", Mills.timeOf(warm, 1), 4);
+        for (int many = 2; many <= 4; many++) {
+            Buildmill lowest = Mills.withRuns(4, 8, false);
+            lowest.workers(0, many);
+            lowest.build(15, false, 0);
+            lowest.write(0, 500);
+            lowest.build(1, false, 1);
+            C.due("cancelled, so the one it took is warm for none", lowest.told(1 + CANCELLED), 1);
+            lowest.workers(0, 1);
+            C.due("that was the lowest of " + many + " warm ones", Mills.timeOf(lowest, 1), 8);
+        }
         Buildmill busy = Mills.withRuns(3, 8, false);
         busy.workers(0, 2);
         busy.build(1, false, 0);
@@ -1325,6 +1376,24 @@ public final class BuildingTest {
         kept.forget(true);
         kept.build(1, false, 1);
         C.due("and is kept", kept.told(1), 1);
+
+        Buildmill looked = Mills.withFiles();
+        looked.write(0, 500);
+        looked.write(20, 3);
+        Mills.one(looked, Buildmill.INCLUDE, 0, 0);
+        looked.work(0, 0, 4, false);
+        looked.build(1, false, 3);
+        C.due("cancelled", looked.told(1 + CANCELLED), 1);
+        C.due("what it would have found is not kept", looked.found(0, 0), NONE);
+        looked.build(1, false, 0);
+        C.due("found", looked.found(0, 0), 20003);
+        looked.write(20, 504);
+        looked.write(24, 5);
+        looked.build(1, false, 1);
+        C.due("cancelled again", looked.told(1 + CANCELLED), 1);
+        C.due("as it was found by what was done", looked.found(0, 0), 20003);
+        C.due("and no more", looked.found(0, 1), NONE);
+        C.due("the content, too", looked.output(0), 503);
 
         Buildmill failing = Mills.withFiles();
         Mills.one(failing, Buildmill.CHECK, 6, 0);

@@ -774,6 +774,17 @@ public final class TermsTest {
         n.state(2, SET, 0, 4, 0);
         C.due("and the next one", n.test(0), 1);
 
+        Buildmill own = new Buildmill();
+        own.target(0, Buildmill.JOIN, 0);
+        own.numberFrom(0, 0, 0);
+        own.choose(0, 0, 1, 5);
+        own.transit(0, 0, 1);
+        C.due("the condition holds for its items alone", own.targetError(0, 0), Buildmill.NO_RULE);
+        own.setting(0, 1);
+        own.transit(0, 0, 0);
+        C.due("it holds for the target alone", own.targetError(0, 0), NONE);
+        C.due("whose number does not come from a rule file then", own.outputFromNothing(0), 5);
+
         C.sentence("DEPENDS: a target, so configured, is in error; its cause is the error of that.");
         Buildmill d = new Buildmill();
         d.target(0, Buildmill.JOIN, 0);
@@ -1003,6 +1014,7 @@ public final class TermsTest {
         C.due("the first", given(Buildmill.MOST, 7, 5, 30, 20, 10), 42);
         C.due("the last", given(Buildmill.MOST, 7, 5, 10, 20, 30), 42);
         C.due("two of them", given(Buildmill.MOST, 7, 5, 30, 30, 10), 42);
+        C.due("40 alike", given(Buildmill.MOST, 7, 5, many(40, 30)), 42);
         C.sentence("TALLY: N, and how many inputs there are, added.");
         C.due("without inputs", given(Buildmill.TALLY, 7, 5), 12);
         C.due("one", given(Buildmill.TALLY, 7, 5, 999), 13);
@@ -1022,6 +1034,7 @@ public final class TermsTest {
         C.due("1001, though 1 is left by 1000", given(Buildmill.CHECK, 2, 0, 999), NONE);
         C.due("1007, though 7 is left by 1000", given(Buildmill.CHECK, 8, 0, 999), 8);
         C.due("7 times 7 by 40 inputs", given(Buildmill.CHECK, 9, 0, many(40, 1)), NONE);
+        C.due("not so by 39", given(Buildmill.CHECK, 9, 0, many(39, 1)), 9);
     }
 
     /** An INCLUDE of the path 0, built alone. */
