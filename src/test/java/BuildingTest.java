@@ -1223,6 +1223,21 @@ public final class BuildingTest {
         C.due("it is not RAN by that", whole.told(1 + RAN), 1);
         C.due("but up to date", whole.became(1, 0), UP_TO_DATE);
 
+        Buildmill same = Mills.withRuns(2, 20, true);
+        same.far(true, 1);
+        same.work(1, 0, 2, true);
+        Mills.of(same, JOIN, 0, 1);
+        same.work(2, 0, 3, true);
+        same.build(7, false, 0);
+        C.due("two far", same.became(1, 0) + same.became(2, 0), 2 * RAN_FAR);
+        C.due("with one content", same.output(1) * 1000 + same.output(2), 111111);
+        Mills.of(same, JOIN, 7, 2);
+        same.work(3, 0, 5, false);
+        same.lose(111);
+        same.build(8, false, 0);
+        C.due("what gives the content again has it among its inputs", same.told(9), 2);
+        C.due("3, and 2, and 3", same.told(0), 8);
+
         Buildmill twice = Mills.withRuns(3, 20, true);
         twice.far(true, 1);
         twice.write(2, 11);
@@ -1403,9 +1418,16 @@ public final class BuildingTest {
         failing.build(3, false, 5);
         C.due("stopped, and then the limit", failing.became(1, 0), CANCELLED);
         C.due("its time", failing.told(0), 5);
+        failing.work(0, 0, 4, false);
         failing.build(3, false, 2);
-        C.due("a failure at the limit", failing.became(0, 0), FAILED);
+        C.due("warm, so it ends at the limit", failing.became(0, 2), 2);
+        C.due("as a failure", failing.became(0, 0), FAILED);
         C.due("is the first", failing.failedFirst(), 0);
+        failing.work(0, 0, 7, false);
+        failing.work(1, 1, 4, false);
+        failing.build(3, false, 4);
+        C.due("warm, at the limit again", failing.became(0, 2), 4);
+        C.due("what ends with it is not cancelled", failing.became(1, 0), RAN);
     }
 
     private static void figures() {
@@ -1767,6 +1789,16 @@ public final class BuildingTest {
             C.due("paths are no way", alone.above(target), 1 << target);
             C.due("not from the last one", alone.allWays(15, target), target == 15 ? 1 << 15 : 0);
             C.due("nor some", alone.someWay(15, target, 0), target == 15 ? 15 : NONE);
+        }
+        Buildmill six = new Buildmill();
+        for (int target = 0; target < 6; target++) six.target(0, JOIN, 0);
+        six.target(5, JOIN, 0);
+        for (int target = 0; target < 6; target++) six.depend(6, target);
+        six.transit(6, 1, 2);
+        for (int target = 0; target < 6; target++) {
+            C.due("by each item, though it is in error", six.someWay(6, target, 1), target);
+            C.due("by no other one", six.allWays(6, target), 1 << 6 | 1 << target);
+            C.due("above each item", six.above(target), 1 << 6 | 1 << target);
         }
 
         C.sentence("Returns the targets, as bits, both included; 0 if there is no way.");

@@ -143,6 +143,16 @@ public final class TermsTest {
         rising.target(0, Buildmill.JOIN, 0);
         rising.glob(0, 131, true);
         C.due("rising, however they were written", rising.outputFromNothing(0), 2 + 2 * 3 + 3 * 1);
+        for (int directory = 1; directory < 6; directory++) {
+            Buildmill inner = Mills.full(1);
+            inner.pack(directory, true);
+            for (int deep = 0; deep < 2; deep++) {
+                inner.target(directory, Buildmill.TALLY, 0);
+                inner.glob(deep, 255, deep == 1);
+            }
+            C.due("of a target in " + directory, inner.outputFromNothing(0), 8);
+            C.due("deep, of a target in " + directory, inner.outputFromNothing(1), directory == 1 ? 24 : directory == 2 ? 16 : 8);
+        }
         C.noRange("names 256", () -> rising.globbed(0, 256, true));
         C.noRange("names -1", () -> rising.globbed(0, -1, true));
     }
